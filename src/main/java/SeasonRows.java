@@ -593,6 +593,7 @@ public final class SeasonRows {
         static final long SMALL_DIVISOR_END = 1L << 36;
         static final int PIECE_BITS = 9;
 
+        // Limbs from the size on are left over from other numbers.
         final long[] limbs = new long[LIMBS];
         int size = 0;
         boolean below = false;
@@ -602,29 +603,29 @@ public final class SeasonRows {
         }
 
         void copy(Big other) {
-            for (int i = 0; i < LIMBS; i++) {
-                limbs[i] = other.limbs[i];
-            }
             size = other.size;
             below = other.below;
+            for (int i = 0; i < size; i++) {
+                limbs[i] = other.limbs[i];
+            }
         }
 
         void setTo(long v) {
             long left = Math.abs(v);
-            for (int i = 0; i < LIMBS; i++) {
-                limbs[i] = left & LIMB_MASK;
-                left = left >>> LIMB_BITS;
-            }
             below = v < 0;
-            trim(LIMBS);
+            for (size = 0; size < LIMBS && left > 0; size++) {
+                limbs[size] = left & LIMB_MASK;
+                left = left >> LIMB_BITS;
+            }
         }
 
         /** The number, if it is at least 0 and below 2 to the 54th, as all bottoms are. */
         long toLong() {
-            return (limbs[1] << LIMB_BITS) + limbs[0];
+            long low = size > 0 ? limbs[0] : 0;
+            return size > 1 ? (limbs[1] << LIMB_BITS) + low : low;
         }
 
-        /** Finds the size anew, all limbs from the end on being 0. */
+        /** Finds the size anew, all limbs from the end on counting as 0. */
         void trim(int end) {
             size = Math.min(end, LIMBS);
             while (size > 0 && limbs[size - 1] == 0) {
@@ -715,9 +716,6 @@ public final class SeasonRows {
                 long sum = columns[i] + carry;
                 into.limbs[i] = sum & Big.LIMB_MASK;
                 carry = sum >> Big.LIMB_BITS;
-            }
-            for (int i = end; i < Big.LIMBS; i++) {
-                into.limbs[i] = 0;
             }
             into.below = carry < 0;
             if (into.below) {

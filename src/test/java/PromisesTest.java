@@ -685,13 +685,23 @@ public final class PromisesTest {
         yes(x.strange(0, 20, true));
         gives(2, x.rounds(0, 1, 1));
         gives(0, x.isStrange(0, 20));
-        // An even many: the greater of the two in the middle (sizes 3 1 1 3, then 4 0 4 0).
+        // An even many: the greater of the two in the middle, 3 of the sizes 3 1 1 3.
         begin(24);
         numbers(0, 0, 2, 4, 6);
         gives(0, x.rounds(0, 1, 1));
         gives(0, x.rounds(0, 999, 999));
         numbers(1, 1, 1, 1, 1);
         gives(0, x.rounds(1, 1, 1000));
+        // Of the sizes 3 1 4 2 0 the third is the middle: that of tick 3, of tick 0, of tick 39.
+        numbers(2, 13, 9, 6, 12, 10);
+        gives(0, x.rounds(2, 2, 1));
+        gives(1, x.rounds(2, 199, 100));
+        gives(1, x.isStrange(2, 2));
+        numbers(2, 12, 9, 6, 13, 10);
+        gives(0, x.rounds(2, 2, 1));
+        yes(x.gap(2, 0));
+        yes(x.put(2, 39, 12));
+        gives(0, x.rounds(2, 2, 1));
         // All that are counted go at once: OPEN in the second round, and all is as before.
         yes(x.strange(0, 1, true));
         yes(x.strange(0, 30, true));
@@ -702,10 +712,11 @@ public final class PromisesTest {
         yes(x.model(0, true, 7));
         none(6, x.rounds(0, 1, 1));
         gives(2, x.told(0, 2));
-        yes(x.put(2, 3, 1));
-        yes(x.strange(2, 3, true));
-        gives(0, x.rounds(2, 1, 1));
-        gives(0, x.isStrange(2, 3));
+        // Of one number the rest is 0; it was a stranger before.
+        yes(x.put(3, 3, 1));
+        yes(x.strange(3, 3, true));
+        gives(0, x.rounds(3, 1, 1));
+        gives(0, x.isStrange(3, 3));
     }
 
     private static void roundsThatEnd() {
