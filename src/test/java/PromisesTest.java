@@ -1,12 +1,5 @@
 /** Each promise of the document by its number: ordinary inputs, edges and wrong inputs. */
-public final class PromisesTest {
-    private static final int NONE = SeasonRows.NONE;
-    private static final int LEAST = Integer.MIN_VALUE;
-    private static final int MOST = Integer.MAX_VALUE;
-    private static int wrong = 0;
-    private static int promise = 0;
-    private static SeasonRows x = new SeasonRows();
-
+public final class PromisesTest extends Checks {
     public static void main(String[] args) {
         newObject();
         status();
@@ -35,78 +28,11 @@ public final class PromisesTest {
         roundsThatEnd();
         pull();
         right();
-        System.out.println(wrong == 0 ? "all answers are as due" : wrong + " answers are not as due");
-        if (wrong != 0) {
-            System.exit(1);
-        }
+        end();
     }
-
-    // ---- how a test says what is due
 
     private static void begin(int number) {
-        promise = number;
-        x = new SeasonRows();
-    }
-
-    private static void due(String what, Object got, Object want) {
-        if (!got.equals(want)) {
-            wrong++;
-            StackTraceElement[] stack = Thread.currentThread().getStackTrace();
-            StringBuilder lines = new StringBuilder();
-            for (int i = 2; i < stack.length && i < 6; i++) {
-                lines.append(' ').append(stack[i].getLineNumber());
-            }
-            System.out.println("promise " + promise + ": " + what + " answered " + got + ", due is " + want
-                + " (lines" + lines + ")");
-        }
-    }
-
-    private static void yes(boolean got) {
-        due("a call", got, true);
-        due("status", x.status(), 0);
-    }
-
-    private static void no(int status, boolean got) {
-        due("a call", got, false);
-        due("status", x.status(), status);
-    }
-
-    private static void gives(int want, int got) {
-        due("a call", got, want);
-        due("status", x.status(), 0);
-    }
-
-    private static void none(int status, int got) {
-        due("a call", got, NONE);
-        due("status", x.status(), status);
-    }
-
-    private static void tells(String want, int got) {
-        due("OUT", text(), want);
-        due("a call", got, want.length());
-        due("the byte behind OUT", x.out(want.length()), NONE);
-        due("status", x.status(), 0);
-    }
-
-    private static String text() {
-        StringBuilder all = new StringBuilder();
-        for (int k = 0; x.out(k) != NONE; k++) {
-            all.append((char) x.out(k));
-        }
-        return all.toString();
-    }
-
-    private static void numbers(int row, int... all) {
-        for (int tick = 0; tick < all.length; tick++) {
-            yes(x.put(row, tick, all[tick]));
-        }
-    }
-
-    private static void feastOn(int row, int feast, int... ticks) {
-        gives(feast, x.feast(row));
-        for (int tick : ticks) {
-            yes(x.on(row, feast, tick));
-        }
+        sentence("Promise " + number);
     }
 
     // ---- the promises
@@ -116,6 +42,7 @@ public final class PromisesTest {
         due("status", x.status(), 0);
         due("out", x.out(0), NONE);
         for (int row = 0; row < 4; row++) {
+            fresh();
             for (int what = 0; what <= 6; what++) {
                 gives(0, x.told(row, what));
             }
