@@ -64,7 +64,7 @@ public final class CallsTest extends Checks {
 
     private static void twoObjects() {
         sentence("A new object");
-        SeasonRows other = x;
+        CountedRows other = x;
         other.fill(0, 0, 40, 3, 3);
         other.model(0, true, 7);
         other.step(0, 5);

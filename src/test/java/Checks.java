@@ -6,13 +6,10 @@ abstract class Checks {
     static final int[] NO_ROWS = {LEAST, -2, -1, 4, MOST};
     static final int[] NO_TICKS = {LEAST, -1, 40, 79, MOST};
     static final int[] NO_FAR_TICKS = {LEAST, -1, 80, MOST};
-    // What an object answers behind its 512th call is free, so no test may ask more of one.
-    private static final int MOST_CALLS = 512;
 
-    static SeasonRows x = new SeasonRows();
+    static CountedRows x = new CountedRows();
     private static String words = "";
     private static int sentences = 0;
-    private static int calls = 0;
     private static int wrong = 0;
 
     /** A test of its own begins, on a new object. */
@@ -23,8 +20,7 @@ abstract class Checks {
     }
 
     static void fresh() {
-        x = new SeasonRows();
-        calls = 0;
+        x = new CountedRows();
     }
 
     static void end() {
@@ -54,64 +50,40 @@ abstract class Checks {
         return all.toString();
     }
 
-    static void called(int times) {
-        calls += times;
-        if (calls > MOST_CALLS) {
-            due("calls of one object", calls, MOST_CALLS);
-        }
-    }
-
     // ---- a call that was made, and what STATUS is then
 
     static void yes(boolean got) {
-        called(1);
         due("a call", got, true);
         statusIs(0);
     }
 
     static void no(int status, boolean got) {
-        called(1);
         due("a call", got, false);
         statusIs(status);
     }
 
     static void gives(int want, int got) {
-        called(1);
         due("a call", got, want);
         statusIs(0);
     }
 
     static void none(int status, int got) {
-        called(1);
         due("a call", got, NONE);
         statusIs(status);
     }
 
     static void tells(String want, int got) {
-        called(1);
         due("a call", got, want.length());
         outIs(want);
         statusIs(0);
     }
 
     static void statusIs(int want) {
-        called(1);
         due("status", x.status(), want);
     }
 
     static void outIs(String want) {
-        due("OUT", text(), want);
-    }
-
-    static String text() {
-        StringBuilder all = new StringBuilder();
-        int now = x.out(0);
-        for (int k = 1; now != NONE; k++) {
-            all.append((char) now);
-            now = x.out(k);
-        }
-        called(all.length() + 1);
-        return all.toString();
+        due("OUT", x.text(), want);
     }
 
     // ---- what many tests set up

@@ -82,7 +82,7 @@ public final class PromisesTest extends Checks {
         none(6, x.part(1, 0));
         none(2, x.part(0, 9));
         none(8, x.where(1));
-        due("OUT", text(), "-7/1");
+        due("OUT", x.text(), "-7/1");
         tells("1/1", x.part(0, 0));
         due("OUT is shorter", x.out(3), NONE);
     }

@@ -13,7 +13,7 @@ import java.util.function.ToIntFunction;
  * OUT.
  */
 public final class RefusedCallsTest extends Checks {
-    private static final List<Consumer<SeasonRows>> SCENES =
+    private static final List<Consumer<CountedRows>> SCENES =
         List.of(s -> { }, RefusedCallsTest::setUp, RefusedCallsTest::setUpLateOpening);
     private static final int NEW = 0;
     private static final int BUSY = 1;
@@ -23,7 +23,7 @@ public final class RefusedCallsTest extends Checks {
 
     /** Asks an object and notes every answer. */
     private interface Probe {
-        void ask(SeasonRows s, List<Integer> notes);
+        void ask(CountedRows s, List<Integer> notes);
     }
 
     public static void main(String[] args) {
@@ -46,7 +46,7 @@ public final class RefusedCallsTest extends Checks {
     // ---- the scenes
 
     /** ROW 0 is full, 1 has a little of all, 2 is OPEN, 3 has STRANGERS and no number. */
-    private static void setUp(SeasonRows s) {
+    private static void setUp(CountedRows s) {
         s.fill(0, 0, 40, -10000, 512);
         s.put(0, 3, 10000);
         s.put(0, 17, 0);
@@ -87,7 +87,7 @@ public final class RefusedCallsTest extends Checks {
     }
 
     /** ROWS 0 and 1 are OPEN in a later round of ROUNDS, 2 is not, and 3 is OPEN now. */
-    private static void setUpLateOpening(SeasonRows s) {
+    private static void setUpLateOpening(CountedRows s) {
         s.put(0, 0, 0);
         s.put(0, 1, 2);
         s.strange(0, 1, true);
@@ -124,7 +124,7 @@ public final class RefusedCallsTest extends Checks {
         }
     }
 
-    private static void noteOut(SeasonRows s, List<Integer> notes) {
+    private static void noteOut(CountedRows s, List<Integer> notes) {
         int now = s.out(0);
         notes.add(now);
         for (int k = 1; now != NONE; k++) {
@@ -133,19 +133,19 @@ public final class RefusedCallsTest extends Checks {
         }
     }
 
-    private static void note(SeasonRows s, int answer, List<Integer> notes) {
+    private static void note(CountedRows s, int answer, List<Integer> notes) {
         notes.add(answer);
         notes.add(s.status());
     }
 
-    private static void noteTold(SeasonRows s, int answer, List<Integer> notes) {
+    private static void noteTold(CountedRows s, int answer, List<Integer> notes) {
         note(s, answer, notes);
         if (answer != NONE) {
             noteOut(s, notes);
         }
     }
 
-    private static void askNumbers(SeasonRows s, int row, List<Integer> notes) {
+    private static void askNumbers(CountedRows s, int row, List<Integer> notes) {
         for (int what = 0; what <= 6; what++) {
             note(s, s.told(row, what), notes);
         }
@@ -155,7 +155,7 @@ public final class RefusedCallsTest extends Checks {
         }
     }
 
-    private static void askLevelAndSeason(SeasonRows s, int row, List<Integer> notes) {
+    private static void askLevelAndSeason(CountedRows s, int row, List<Integer> notes) {
         for (int what = 0; what <= 2; what++) {
             noteTold(s, s.part(row, what), notes);
         }
@@ -164,7 +164,7 @@ public final class RefusedCallsTest extends Checks {
         }
     }
 
-    private static void askStepsAndFeasts(SeasonRows s, int row, List<Integer> notes) {
+    private static void askStepsAndFeasts(CountedRows s, int row, List<Integer> notes) {
         for (int k = 0; k < 3; k++) {
             noteTold(s, s.stepBy(row, k), notes);
             noteTold(s, s.feastBy(row, k), notes);
@@ -173,14 +173,14 @@ public final class RefusedCallsTest extends Checks {
         note(s, s.where(row), notes);
     }
 
-    private static void askStepTicks(SeasonRows s, int row, List<Integer> notes) {
+    private static void askStepTicks(CountedRows s, int row, List<Integer> notes) {
         for (int tick = 0; tick < 40; tick++) {
             note(s, bit(s.unstep(row, tick)), notes);
         }
     }
 
     /** Makes the ROW such that nothing but its FEASTS is left to be seen. */
-    private static void askFeastTicks(SeasonRows s, int row, int from, List<Integer> notes) {
+    private static void askFeastTicks(CountedRows s, int row, int from, List<Integer> notes) {
         for (int tick = 0; tick < 40; tick++) {
             notes.add(bit(s.unstep(row, tick)));
             notes.add(bit(s.strange(row, tick, false)));
@@ -197,10 +197,7 @@ public final class RefusedCallsTest extends Checks {
         for (String name : PROBES.keySet()) {
             fresh();
             SCENES.get(scene).accept(x);
-            // No scene has more than a hundred calls.
-            called(100);
             all.put(name, probe(name));
-            called(all.get(name).size());
         }
         return all;
     }
@@ -213,15 +210,15 @@ public final class RefusedCallsTest extends Checks {
 
     // ---- what is due
 
-    private static void refuses(int scene, int status, Predicate<SeasonRows> call) {
+    private static void refuses(int scene, int status, Predicate<CountedRows> call) {
         refuses(scene, status, 0, s -> bit(call.test(s)));
     }
 
-    private static void refusesNumber(int scene, int status, ToIntFunction<SeasonRows> call) {
+    private static void refusesNumber(int scene, int status, ToIntFunction<CountedRows> call) {
         refuses(scene, status, NONE, call);
     }
 
-    private static void refuses(int scene, int status, int refused, ToIntFunction<SeasonRows> call) {
+    private static void refuses(int scene, int status, int refused, ToIntFunction<CountedRows> call) {
         for (String name : PROBES.keySet()) {
             fresh();
             SCENES.get(scene).accept(x);
@@ -231,7 +228,7 @@ public final class RefusedCallsTest extends Checks {
         }
     }
 
-    private static void answers(int scene, ToIntFunction<SeasonRows> question) {
+    private static void answers(int scene, ToIntFunction<CountedRows> question) {
         for (String name : PROBES.keySet()) {
             fresh();
             SCENES.get(scene).accept(x);

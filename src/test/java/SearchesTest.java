@@ -321,7 +321,6 @@ public final class SearchesTest extends Checks {
         strangersAre(0, 0, 5, 39);
         for (int tick = 0; tick < 40; tick++) {
             x.strange(0, tick, true);
-            called(1);
         }
         none(6, x.rounds(0, 1000, 1000));
         gives(40, x.told(0, 2));
